@@ -7,6 +7,7 @@ public final class ClusteringTest {
         ties();
         headOfTheOtherGroup();
         allEqual();
+        distancesAfterChanges();
         emptyClasses();
         CHECK.end();
     }
@@ -68,6 +69,15 @@ public final class ClusteringTest {
 
     private static void allEqual() {
         joins("equal", withClassesAt(7, 7, 7, 7), new int[] {1, 2, 3}, new int[] {0, 0, 0});
+    }
+
+    private static void distancesAfterChanges() {
+        SensorArray x = withClassesAt(100, 104, 120);
+        CHECK.due("joinDistance(1), the first call", x.joinDistance(1), 256);
+        x.setBaseline(0, 500);
+        CHECK.due("joinDistance(1) right after a new baseline", x.joinDistance(1), 1024);
+        x.removeSample(1, 0);
+        CHECK.due("joinDistance(0) right after a removal", x.joinDistance(0), 1600);
     }
 
     private static void emptyClasses() {

@@ -159,6 +159,11 @@ public final class DriftTest {
         CHECK.due("driftPosition(): -240", x.driftPosition(), 999760);
         x.useDrift(false);
         CHECK.due("driftPosition(), switched off", x.driftPosition(), 999760);
+        x.setBaseline(0, 500);
+        // Now the first reference is (1200, 500), the drift vector (1000, -250): -150000000 / 1062500
+        CHECK.due("driftPosition() right after a new baseline", x.driftPosition(), 999858);
+        x.removeReference();
+        CHECK.due("driftPosition() right after a removal", x.driftPosition(), -1);
     }
 
     private static void switching() {

@@ -14,6 +14,7 @@ public final class LeaveOneOutTest {
         driftThatIsLeft();
         subsets();
         leastUseful();
+        countsAfterChanges();
         testsChangeNothing();
         CHECK.end();
     }
@@ -245,6 +246,21 @@ public final class LeaveOneOutTest {
         CHECK.due("correctWithout(0): no drift is left", x.correctWithout(0), 4);
         CHECK.due("correctWith(2)", x.correctWith(2), 4);
         CHECK.due("correctWith(1)", x.correctWith(1), 2);
+    }
+
+    /** Each count right after a change, with no other call between them. */
+    private static void countsAfterChanges() {
+        SensorArray x = misleading();
+        CHECK.due("correctWith(1), the first call", x.correctWith(1), 4);
+        x.setBaseline(0, 100);
+        CHECK.due("correctWith(1): ratios 1000, 1100, 2000, 2000", x.correctWith(1), 4);
+        x.removeSample(1, 0);
+        CHECK.due("correctWithout(1) after a removal", x.correctWithout(1), 2);
+        x.removeSample(1, 0);
+        CHECK.due("bestSubset(1): class 0 alone is always right", x.bestSubset(1), 1);
+        CHECK.due("confusion(0, 0)", x.confusion(0, 0), 2);
+        x.removeSample(0, 0);
+        CHECK.due("correctWith(7) after a removal", x.correctWith(7), 0);
     }
 
     private static void testsChangeNothing() {

@@ -69,6 +69,13 @@ public final class ScoresTest {
         CHECK.due("sensorScore(1): w = 0, b = 2", x.sensorScore(1), 1000000);
         sample(x, 1, 7, 9);
         CHECK.due("sensorScore(1): w = 0, b = 2 (of 8 / 3)", x.sensorScore(1), 1000000);
+        SensorArray one = withClasses(2);
+        sample(one, 0, 7, 8);
+        sample(one, 1, 8, 8);
+        sample(one, 1, 8, 8);
+        CHECK.due("sensorScore(0): w = 0, b = 0 (of 2 / 3)", one.sensorScore(0), 0);
+        sample(one, 0, 7, 8);
+        CHECK.due("sensorScore(0): w = 0, b = 1", one.sensorScore(0), 1000000);
     }
 
     /** 1 and 2 scatter by 0.5: 0 in each class, but more over all. */

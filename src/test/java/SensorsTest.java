@@ -92,6 +92,16 @@ public final class SensorsTest {
             CHECK.due("addReference(0) after reset", x.addReference(0), 1);
             CHECK.due("addCalibration() after reset", x.addCalibration(), 1);
         }
+        for (int label = 0; label < 8; label++) {
+            x.addClass();
+            x.addSample(label);
+        }
+        CHECK.due("sampleCount(7)", x.sampleCount(7), 1);
+        x.reset(2);
+        for (int label = 0; label < 8; label++) {
+            x.addClass();
+            CHECK.due("sampleCount(" + label + ") after reset", x.sampleCount(label), 0);
+        }
         // The same number of sensors is no exception.
         x.reset(2);
         isNew("after reset(2)", x, 2);
@@ -154,6 +164,8 @@ public final class SensorsTest {
             CHECK.due("d" + with, x.measure(50, 0, 0, 0, 4, 0), sensors > 3 ? 4 : -3);
             CHECK.due("e" + with, x.measure(50, 0, 0, 0, 0, 5), sensors > 4 ? 5 : -3);
             CHECK.due("c = -1" + with, x.measure(50, 0, 0, -1, 0, 0), -3);
+            CHECK.due("e = 1" + with, x.measure(50, 0, 0, 0, 0, 1), sensors > 4 ? 1 : -3);
+            CHECK.due("e = -1" + with, x.measure(50, 0, 0, 0, 0, -1), -3);
         }
     }
 
