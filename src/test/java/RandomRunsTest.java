@@ -12,8 +12,9 @@ import java.util.TreeSet;
  */
 public final class RandomRunsTest {
     private static final Check CHECK = new Check("RandomRunsTest");
-    private static final int RUNS = 700;
-    private static final int CALLS = 300;
+    private static final int RUNS = 600;
+    /** What an object is used for at most. */
+    private static final int CALLS = 512;
 
     /** For each method, the errors and other special answers that the document names. */
     private static final String[] KINDS = {
@@ -51,6 +52,7 @@ public final class RandomRunsTest {
     private final int run;
     private int sensors = 2;
     private int time;
+    private int calls;
 
     private RandomRunsTest(int run) {
         this.run = run;
@@ -97,18 +99,17 @@ public final class RandomRunsTest {
             same("addClass", 0, 0);
         }
         boolean crowded = random.nextInt(6) == 0;
-        for (int i = 0; i < CALLS; i++) {
-            if (crowded && i < 90) {
-                same("measure", 0, 0);
-                same("addSample", i % 9, 0);
-            } else {
-                step();
-            }
+        for (int i = 0; i < 90 && crowded; i++) {
+            same("measure", 0, 0);
+            same("addSample", i % 9, 0);
+        }
+        while (calls < CALLS) {
+            step();
         }
     }
 
     private void step() {
-        if (random.nextInt(3) == 0) {
+        if (random.nextInt(3) == 0 && calls < CALLS - 1) {
             same("measure", 0, 0);
         }
         int choice = random.nextInt(KINDS.length + 8);
@@ -198,6 +199,7 @@ public final class RandomRunsTest {
     }
 
     private void same(String name, int a, int b) {
+        calls++;
         Method method = METHODS.get(name);
         Object[] arguments = {a, b};
         if (name.equals("measure")) {
