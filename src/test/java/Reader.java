@@ -18,12 +18,12 @@ final class Reader {
     static String read(SensorArray x) {
         Reader reader = new Reader(x);
         reader.settings();
+        reader.baselines();
         reader.currentMeasurement();
         reader.classesAsTheyAre();
         reader.references();
         reader.calibrations();
         reader.samples();
-        reader.baselines();
         return reader.text.toString();
     }
 
@@ -38,6 +38,15 @@ final class Reader {
     private void settings() {
         note("switches", x.useHumidity(true), x.useDrift(true));
         note("margin and slack", x.setMargin(50), x.setSlack(0));
+    }
+
+    /** Read before any call that may be refused, lest a refusal in here hide what one has done before. */
+    private void baselines() {
+        for (int k = 0; k < sensors; k++) {
+            int baseline = x.setBaseline(k, 1000);
+            x.setBaseline(k, baseline);
+            note("baseline", baseline);
+        }
     }
 
     private void currentMeasurement() {
@@ -56,8 +65,9 @@ final class Reader {
         note("tests", x.correctCount(), x.leastUsefulSensor(), x.bestSubset(1));
     }
 
-    /** The current measurement is stored behind the others first, so that it is told by what follows. */
+    /** The current measurement is stored behind the others, so that it is told by what follows. */
     private void references() {
+        note("predictions", x.predictedReference(0, 0), x.predictedReference(sensors - 1, 0));
         note("latest reference", x.addReference(999));
         int left = 0;
         do {
@@ -86,12 +96,6 @@ final class Reader {
             for (int sample = 0; sample < count; sample++) {
                 note("sample", x.recall(label, sample), x.ratio(0), x.ratio(sensors - 1));
             }
-        }
-    }
-
-    private void baselines() {
-        for (int k = 0; k < sensors; k++) {
-            note("baseline", x.setBaseline(k, 1000));
         }
     }
 }

@@ -11,12 +11,12 @@ final class RefusalBoundaries {
             + "addReference 20; measure 40 130 260; addReference 35; addSample 2; measure 60 120 220; setMargin 30;"
             + "setSlack 11;";
 
-    /** Twelve calibrations, ten references, eight classes of which 0 and 7 are full, and five sensors. */
+    /** Twelve calibrations, ten references, eight classes of which 6 and 7 are full, and five sensors. */
     private static final String FULL = "reset 5; 8 x addClass; measure 20 500 510 520 530 540; 5 x addCalibration;"
-            + "addReference 0; addReference 1; 4 x addSample 0; addSample 3; measure 70 550 500 520 500 590;"
-            + "7 x addCalibration; 4 x addSample 0; addReference 2; addReference 3; addReference 4; addReference 5;"
-            + "measure 30 700 300 520 500 100; 8 x addSample 7; addReference 6; addReference 7; addReference 8;"
-            + "addReference 998; measure 45 600 400 520 510 300;";
+            + "addReference 100; addReference 200; 4 x addSample 6; 2 x addSample 0; measure 70 550 500 520 500 590;"
+            + "7 x addCalibration; 4 x addSample 6; addReference 300; addReference 400; addReference 500;"
+            + "addReference 600; measure 30 700 300 520 500 100; 8 x addSample 7; addReference 700; addReference 800; addReference 900;"
+            + "addReference 998; measure 45 600 400 520 510 300; setBaseline 4 2000;";
 
     private RefusalBoundaries() { }
 
@@ -45,6 +45,7 @@ final class RefusalBoundaries {
         b.says(sentence, UNMEASURED, badValues);
         b.says(sentence, SOME, badValues, "addReference -1 = BAD_VALUE; addReference 1000 = BAD_VALUE;",
                 "addReference 35 = BAD_VALUE; addReference 34 = BAD_VALUE;");
+        b.says(sentence, FULL, badValues, "addReference 998 = BAD_VALUE; addReference 1000 = BAD_VALUE;");
         String missing = "ratio 0 = NOT_READY; feature 0 = NOT_READY; addCalibration = NOT_READY;"
                 + "addReference 5 = NOT_READY; driftPosition = NOT_READY; nearestClass = NOT_READY; runnerUp = "
                 + "NOT_READY;"
@@ -57,7 +58,7 @@ final class RefusalBoundaries {
     private static void nothingChangesWhenFull(Boundaries b) {
         b.says("A method that returns one of the constants NO_SUCH, BAD_VALUE, FULL or NOT_READY changes nothing.",
                 FULL, "addCalibration = FULL; addReference 999 = FULL; addReference 998 = BAD_VALUE; addClass = FULL;",
-                "addSample 0 = FULL; addSample 7 = FULL; addSample 8 = NO_SUCH; removeSample 0 8 = NO_SUCH;",
+                "addSample 6 = FULL; addSample 7 = FULL; addSample 8 = NO_SUCH; removeSample 6 8 = NO_SUCH;",
                 "removeSample 1 0 = NO_SUCH; recall 7 8 = NO_SUCH; recall 1 0 = NO_SUCH;",
                 "setBaseline 5 1000 = NO_SUCH;",
                 "setBaseline 4 99 = BAD_VALUE; measure 50 1 1 1 1 10000 = BAD_VALUE; reset 6 = BAD_VALUE;",
@@ -80,6 +81,8 @@ final class RefusalBoundaries {
         b.says(sentence, UNMEASURED, sensors, classes, "removeCalibration = NO_SUCH; removeReference = NO_SUCH;");
         b.says(sentence, SOME, sensors, classes, "removeSample 1 0 = NO_SUCH; recall 1 0 = NO_SUCH;");
         b.says(sentence, FULL, sensors, classes);
+        b.says(sentence, FULL, "12 x removeCalibration; removeCalibration = NO_SUCH; removeReference = 9;");
+        b.says(sentence, FULL, "10 x removeReference; removeReference = NO_SUCH; removeCalibration = 11;");
     }
 
     private static void firstNamed(Boundaries b) {
