@@ -15,8 +15,8 @@ final class RefusalBoundaries {
     private static final String FULL = "reset 5; 8 x addClass; measure 20 500 510 520 530 540; 5 x addCalibration;"
             + "addReference 100; addReference 200; 4 x addSample 6; 2 x addSample 0; measure 70 550 500 520 500 590;"
             + "7 x addCalibration; 4 x addSample 6; addReference 300; addReference 400; addReference 500;"
-            + "addReference 600; measure 30 700 300 520 500 100; 8 x addSample 7; addReference 700; addReference 800; addReference 900;"
-            + "addReference 998; measure 45 600 400 520 510 300; setBaseline 4 2000;";
+            + "addReference 600; measure 30 700 300 520 500 100; 8 x addSample 7; addReference 700; addReference 800;"
+            + "addReference 900; addReference 998; measure 45 600 400 520 510 300; setBaseline 4 2000;";
 
     private RefusalBoundaries() { }
 
